@@ -30,6 +30,7 @@ public final class DaeProcessor {
     private static final int HALF_COUNT = 2;
     private static final int ACCESS = 0;
     private static final int EXECUTE = 1;
+    private static final int LOOP_PLACES = HALF_COUNT * OPEN_LIMIT;
 
     private final int queueDepth;
     private final int loadLatency;
@@ -55,8 +56,8 @@ public final class DaeProcessor {
     // Each half walks through the program by itself: its place, and a stack of its open loops.
     private final int[] position = new int[HALF_COUNT];
     private final int[] openLoops = new int[HALF_COUNT];
-    private final int[] loopStart = new int[HALF_COUNT * OPEN_LIMIT];
-    private final int[] passesLeft = new int[HALF_COUNT * OPEN_LIMIT];
+    private final int[] loopStart = new int[LOOP_PLACES];
+    private final int[] passesLeft = new int[LOOP_PLACES];
 
     // What the access half has found out for the execute half, in program order.
     private final int[] operandValue = new int[DEPTH_LIMIT];

@@ -2,15 +2,36 @@
 final class Check {
     private static int wrong = 0;
     private static int made = 0;
+    private static String sentence = null;
+    private static int madeBefore = 0;
 
     private Check() {
+    }
+
+    /** The answers from here on are about these words of the document. */
+    static void sentence(String words) {
+        closeSentence();
+        sentence = words;
+        madeBefore = made;
+    }
+
+    private static void closeSentence() {
+        if (sentence == null) {
+            return;
+        }
+        System.out.println("   \"" + sentence + "\": " + (made - madeBefore) + " answers");
+        if (made == madeBefore) {
+            wrong++;
+            System.out.println("no answer is about it");
+        }
     }
 
     static void due(String what, long got, long want) {
         made++;
         if (got != want) {
             wrong++;
-            System.out.println(what + " answered " + got + ", due is " + want);
+            String about = sentence == null ? "" : " (\"" + sentence + "\")";
+            System.out.println(what + " answered " + got + ", due is " + want + about);
         }
     }
 
@@ -29,6 +50,7 @@ final class Check {
     }
 
     static void finish() {
+        closeSentence();
         System.out.println(made + " answers, " + wrong + " not as due");
         if (wrong != 0 || made == 0) {
             System.exit(1);
