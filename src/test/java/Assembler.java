@@ -8,14 +8,20 @@ final class Assembler {
     private Assembler() {
     }
 
-    /** Arguments that are left out are given as 0. */
-    static int emit(DaeProcessor p, String line) {
+    /** The arguments of emit; those that are left out are 0. */
+    static int[] instruction(String line) {
         String[] words = line.split(" ");
-        int[] arguments = new int[3];
+        int[] arguments = new int[4];
+        arguments[0] = NAMES.indexOf(words[0]);
         for (int i = 1; i < words.length; i++) {
-            arguments[i - 1] = Integer.parseInt(words[i]);
+            arguments[i] = Integer.parseInt(words[i]);
         }
-        return p.emit(NAMES.indexOf(words[0]), arguments[0], arguments[1], arguments[2]);
+        return arguments;
+    }
+
+    static int emit(DaeProcessor p, String line) {
+        int[] i = instruction(line);
+        return p.emit(i[0], i[1], i[2], i[3]);
     }
 
     /** Adds the lines to a program that has this many instructions. */

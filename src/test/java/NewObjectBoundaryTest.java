@@ -1,12 +1,14 @@
-import java.lang.reflect.Field;
 import java.util.ArrayList;
 import java.util.List;
 
-/** Promise 1: its boundary sentences, and the one on 512 calls, each with a test of its own. */
+/**
+ * Promise 1: its boundary sentences, and the one on 512 calls, each with a test of its own, by answers
+ * alone. What depth and latency change inside the object is looked at in InsideTest.
+ */
 public final class NewObjectBoundaryTest {
     private static final int MIN = Integer.MIN_VALUE;
     private static final int MAX = Integer.MAX_VALUE;
-    private static final int[] SIZES = {MIN, -1, 0, 1, 2, 3, 4, 5, 6, 7, 8, MAX};
+    private static final int[] SIZES = {MIN, -1, 0, 1, 2, 3, 4, 5, 6, 7, 8, 2000000, MAX};
 
     // The access half waits for its own loads and for late stores.
     private static final String[] WAITING = {"REPEAT 3", "LOAD 2 1 0", "MUL 3 2 2", "STORE 3 1 1", "LOAD 4 1 1",
@@ -18,7 +20,7 @@ public final class NewObjectBoundaryTest {
         "SKIPZ 2 1", "ADD 5 5 6", "LOAD 6 0 1", "STORE 6 1 0", "STORE 5 1 1", "STORE 7 1 2", "STORE 3 1 3",
         "STORE 6 1 4", "LOAD 7 1 5", "LOAD 3 1 4", "XOR 3 3 6", "ADDI 2 2 164", "LESS 4 3 7", "END"};
 
-    public static void main(String[] args) throws Exception {
+    public static void main(String[] args) {
         operandQueueDepth();
         storeQueueDepth();
         loadLatency();
@@ -29,65 +31,55 @@ public final class NewObjectBoundaryTest {
         Check.finish();
     }
 
-    /**
-     * The cycle of a run's last instruction. No answer shows it, so that the sentences on depth and
-     * latency can be tested only by a look inside.
-     */
-    private static int lastCycle(DaeProcessor p) throws Exception {
-        p.run();
-        Field cycle = DaeProcessor.class.getDeclaredField("cycle");
-        cycle.setAccessible(true);
-        return cycle.getInt(p);
-    }
-
-    /** The last cycle of a run, and of a second run, with latency 6 at depths 1, 2, 3 and 4. */
-    private static void lastCycles(int[] due, String... lines) throws Exception {
-        for (int depth : SIZES) {
-            int want = depth < 1 ? due[0] : depth > 4 ? due[3] : due[depth - 1];
-            DaeProcessor p = new DaeProcessor(depth, 6);
-            Assembler.append(p, 0, lines);
-            for (int run = 1; run <= 2; run++) {
-                // not 0, so that no skip is taken
-                p.setRegister(2, 1);
-                String what = "last cycle of run " + run + " of " + lines[1] + " ... with depth " + depth;
-                Check.due(what, lastCycle(p), want);
+    /** Two runs, each from the same registers and memory, leave what is due with this depth and latency. */
+    private static void dueOfRuns(int depth, int latency, int executed, int[] due, String... lines) {
+        DaeProcessor p = new DaeProcessor(depth, latency);
+        Assembler.append(p, 0, lines);
+        for (int run = 1; run <= 2; run++) {
+            for (int cell = 0; cell < 16; cell++) {
+                p.setMemory(cell, 10 * cell + 1);
+            }
+            for (int r = 0; r < 8; r++) {
+                p.setRegister(r, r == 7 ? 1 : 0);
+            }
+            String what = "new(" + depth + ", " + latency + "), run " + run + " of " + lines[0] + " ...: ";
+            Check.due(what + "run()", p.run(), executed);
+            for (int r = 0; r < 8; r++) {
+                Check.due(what + "register(" + r + ")", p.register(r), due[r]);
             }
         }
     }
 
-    private static void operandQueueDepth() throws Exception {
+    /** More loads, results and skips than a queue has places. */
+    private static void operandQueueDepth() {
         Check.sentence("The queues between the two halves hold depth places each, clamped into 1..4 (operands)");
-        // with d places, d loads are under way at once
-        String[] loads = new String[12];
-        for (int i = 0; i < 12; i++) {
-            loads[i] = "LOAD 1 0 " + i;
+        for (int depth : SIZES) {
+            dueOfRuns(depth, 6, 6, new int[] {0, 11, 21, 31, 41, 51, 61, 1},
+                "LOAD 1 0 1", "LOAD 2 0 2", "LOAD 3 0 3", "LOAD 4 0 4", "LOAD 5 0 5", "LOAD 6 0 6");
+            dueOfRuns(depth, 6, 7, new int[] {0, 1, 2, 3, 4, 5, 11, 51},
+                "LOAD 6 0 1", "ADDI 1 0 1", "ADDI 2 1 1", "ADDI 3 2 1", "ADDI 4 3 1", "ADDI 5 4 1", "LOAD 7 5 0");
+            dueOfRuns(depth, 6, 7, new int[] {0, 0, 0, 0, 0, 21, 11, 1},
+                "LOAD 6 0 1", "SKIPZ 7 1", "SKIPZ 7 1", "SKIPZ 7 1", "SKIPZ 7 1", "SKIPZ 7 1", "LOAD 5 0 2");
         }
-        lastCycles(new int[] {72, 37, 26, 21}, loads);
-        // behind a slow load, the access half gets past d - 1 results of its own
-        lastCycles(new int[] {16, 15, 14, 13}, "LOAD 6 0 0", "ADDI 1 1 1", "ADDI 1 1 1", "ADDI 1 1 1", "ADDI 1 1 1",
-            "LOAD 7 1 0");
-        lastCycles(new int[] {16, 15, 14, 13}, "LOAD 6 0 0", "SKIPZ 2 1", "SKIPZ 2 1", "SKIPZ 2 1", "SKIPZ 2 1",
-            "LOAD 7 0 0");
     }
 
-    private static void storeQueueDepth() throws Exception {
+    /** More stores that wait for a load than a queue has places. */
+    private static void storeQueueDepth() {
         Check.sentence("The queues between the two halves hold depth places each, clamped into 1..4 (stores)");
-        // behind a slow load, the access half gets past d stores
-        lastCycles(new int[] {16, 15, 14, 11}, "LOAD 1 0 0", "STORE 2 0 1", "STORE 2 0 2", "STORE 2 0 3",
-            "STORE 2 0 4", "LOAD 3 0 5");
+        for (int depth : SIZES) {
+            dueOfRuns(depth, 6, 11, new int[] {0, 1, 1, 1, 1, 1, 1, 1},
+                "LOAD 1 0 0", "STORE 1 0 1", "STORE 1 0 2", "STORE 1 0 3", "STORE 1 0 4", "STORE 1 0 5",
+                "LOAD 2 0 1", "LOAD 3 0 2", "LOAD 4 0 3", "LOAD 5 0 4", "LOAD 6 0 5");
+        }
     }
 
     /** Four loads of which each waits for the one before. */
-    private static void loadLatency() throws Exception {
+    private static void loadLatency() {
         Check.sentence("a load takes latency cycles, clamped into 1..6");
-        int[][] due = {{MIN, 4}, {-1, 4}, {0, 4}, {1, 4}, {2, 8}, {3, 12}, {4, 16}, {5, 20}, {6, 24}, {7, 24},
-            {8, 24}, {MAX, 24}};
-        for (int depth = 1; depth <= 4; depth++) {
-            for (int[] row : due) {
-                DaeProcessor p = new DaeProcessor(depth, row[0]);
-                Assembler.append(p, 0, "LOAD 1 1 0", "LOAD 1 1 0", "LOAD 1 1 0", "LOAD 1 1 0");
-                Check.due("last cycle with latency " + row[0], lastCycle(p), row[1]);
-                Check.due("last cycle of the next run", lastCycle(p), row[1]);
+        for (int depth : SIZES) {
+            for (int latency : SIZES) {
+                dueOfRuns(depth, latency, 4, new int[] {0, 151, 0, 0, 0, 0, 0, 1},
+                    "LOAD 1 1 0", "LOAD 1 1 0", "LOAD 1 1 0", "LOAD 1 1 0");
             }
         }
     }
