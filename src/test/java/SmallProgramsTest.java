@@ -1,4 +1,4 @@
-/** Every program of a few instructions, compared with the plain reading; nothing is left to chance. */
+/** Every short program out of a few chosen instructions, compared with the plain reading. */
 public final class SmallProgramsTest {
     private static final int[][] SIZES = {{1, 6}, {2, 3}, {4, 1}};
     private static final int[][] REGISTERS = {{0, 0, 3, 14}, {5, 0, -1, 15}};
